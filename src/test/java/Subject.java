@@ -1,0 +1,102 @@
+/**
+ * A BitVectorWords that is never used for more calls than the document speaks of, and whose vectors are set and
+ * shown as strings of 0 and 1, element 0 first.
+ */
+final class Subject {
+    static final int MOST_CALLS = 512;
+    static final int[] NOT_VECTORS = {-1, 6, 7, 256, Integer.MIN_VALUE, Integer.MAX_VALUE};
+
+    private final BitVectorWords words = new BitVectorWords();
+    private int calls = 0;
+
+    static Subject with(String... vectors) {
+        Subject x = new Subject();
+        for (int v = 0; v < vectors.length; v++) {
+            x.set(v, vectors[v]);
+        }
+        return x;
+    }
+
+    private BitVectorWords called() {
+        calls++;
+        if (calls > MOST_CALLS) {
+            throw new IllegalStateException("the test makes more than " + MOST_CALLS + " calls on one object");
+        }
+        return words;
+    }
+
+    int callsLeft() {
+        return MOST_CALLS - calls;
+    }
+
+    int make(int vector, int length) {
+        return called().make(vector, length);
+    }
+
+    int put(int vector, int index, int n, int bits) {
+        return called().put(vector, index, n, bits);
+    }
+
+    int change(int to, int kind, int from, int k) {
+        return called().change(to, kind, from, k);
+    }
+
+    int combine(int to, int kind, int a, int b) {
+        return called().combine(to, kind, a, b);
+    }
+
+    int length(int vector) {
+        return called().length(vector);
+    }
+
+    boolean get(int vector, int index) {
+        return called().get(vector, index);
+    }
+
+    int count(int vector, int from, int to) {
+        return called().count(vector, from, to);
+    }
+
+    int place(int vector, int n) {
+        return called().place(vector, n);
+    }
+
+    int findRun(int vector, int from, int run) {
+        return called().findRun(vector, from, run);
+    }
+
+    int compare(int a, int b) {
+        return called().compare(a, b);
+    }
+
+    void set(int vector, String elements) {
+        make(vector, elements.length());
+        for (int start = 0; start < elements.length(); start += 32) {
+            int n = Math.min(32, elements.length() - start);
+            int bits = 0;
+            for (int j = 0; j < n; j++) {
+                if (elements.charAt(start + j) == '1') {
+                    bits |= 1 << j;
+                }
+            }
+            put(vector, start, n, bits);
+        }
+    }
+
+    String show(int vector) {
+        StringBuilder shown = new StringBuilder();
+        int length = length(vector);
+        for (int i = 0; i < length; i++) {
+            shown.append(get(vector, i) ? '1' : '0');
+        }
+        return shown.toString();
+    }
+
+    String showAll() {
+        StringBuilder shown = new StringBuilder();
+        for (int v = 0; v < 6; v++) {
+            shown.append(v == 0 ? "" : " ").append(v).append('=').append(show(v));
+        }
+        return shown.toString();
+    }
+}
