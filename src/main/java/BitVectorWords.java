@@ -157,7 +157,7 @@ public final class BitVectorWords {
         return vector >= 0 && vector < VECTORS;
     }
 
-    // False for an index outside the vector. The index is a long so that a caller's sum can't wrap into the vector.
+    // False for an index outside the vector. The index is a long because SHIFT's i + k must not wrap.
     private boolean element(int vector, long index) {
         return index >= 0 && index < lengths[vector] && elements[vector * LONGEST + (int) index];
     }
@@ -233,8 +233,8 @@ public final class BitVectorWords {
         if (m == 0) {
             return 0;
         }
-        // Java's remainder takes the sign of k; adding m once brings it into 0 to m - 1.
-        int turn = (k % m + m) % m;
+        // Java's remainder takes the sign of k: m is added so that i + turn is never negative.
+        int turn = k % m + m;
         for (int i = 0; i < m; i++) {
             result[i] = element(from, (i + turn) % m);
         }

@@ -32,6 +32,7 @@ public final class ChangeTest {
                 gives(kind, "", k, "");
             }
         }
+        gives(BitVectorWords.REVERSE, "0001", 0, "1000");
         gives(BitVectorWords.SCAN_AND, "0111", 0, "0000");
         gives(BitVectorWords.SCAN_AND, "1111", 0, "1111");
         gives(BitVectorWords.SCAN_OR, "0000", 0, "0000");

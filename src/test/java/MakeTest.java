@@ -16,6 +16,9 @@ public final class MakeTest {
         x.make(1, 1);
         x.make(1, 4);
         Check.due("shorter and longer again", x.show(1), "0000");
+        x.change(2, BitVectorWords.NOT, 1, 0);
+        x.make(3, 4);
+        Check.due("make after a change", x.show(3), "0000");
         x.make(1, 0);
         Check.due("make 1 0", x.length(1), 0);
     }
