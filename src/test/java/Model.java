@@ -1,8 +1,12 @@
 import java.math.BigInteger;
 
 /** The document's promises said once more, in another way: a vector is a string of 0 and 1, element 0 first. */
-final class Model {
+final class Model implements Words {
     private final String[] vectors = {"", "", "", "", "", ""};
+
+    Model(String... given) {
+        System.arraycopy(given, 0, vectors, 0, given.length);
+    }
 
     private static boolean bad(int vector) {
         return vector < 0 || vector > 5;
@@ -29,13 +33,19 @@ final class Model {
         return vectors[vector];
     }
 
-    int make(int vector, int length) {
+    String[] showAll() {
+        return vectors.clone();
+    }
+
+    @Override
+    public int make(int vector, int length) {
         if (bad(vector)) return BitVectorWords.BAD_VECTOR;
         if (length < 0 || length > 256) return BitVectorWords.BAD_LENGTH;
         return store(vector, falses(length));
     }
 
-    int put(int vector, int index, int n, int bits) {
+    @Override
+    public int put(int vector, int index, int n, int bits) {
         if (bad(vector)) return BitVectorWords.BAD_VECTOR;
         if (n < 1 || n > 32) return BitVectorWords.BAD_LENGTH;
         String x = vectors[vector];
@@ -46,7 +56,8 @@ final class Model {
         return n;
     }
 
-    int change(int to, int kind, int from, int k) {
+    @Override
+    public int change(int to, int kind, int from, int k) {
         if (bad(to) || bad(from)) return BitVectorWords.BAD_VECTOR;
         if (kind < 0 || kind > 8) return BitVectorWords.BAD_KIND;
         String x = vectors[from];
@@ -86,7 +97,8 @@ final class Model {
         }
     }
 
-    int combine(int to, int kind, int a, int b) {
+    @Override
+    public int combine(int to, int kind, int a, int b) {
         if (bad(to) || bad(a) || bad(b)) return BitVectorWords.BAD_VECTOR;
         if (kind < 0 || kind > 7) return BitVectorWords.BAD_KIND;
         String x = vectors[a];
@@ -137,16 +149,19 @@ final class Model {
         return made.toString();
     }
 
-    int length(int vector) {
+    @Override
+    public int length(int vector) {
         return bad(vector) ? BitVectorWords.BAD_VECTOR : vectors[vector].length();
     }
 
-    boolean get(int vector, int index) {
+    @Override
+    public boolean get(int vector, int index) {
         if (bad(vector) || index < 0 || index >= vectors[vector].length()) return false;
         return vectors[vector].charAt(index) == '1';
     }
 
-    int count(int vector, int from, int to) {
+    @Override
+    public int count(int vector, int from, int to) {
         if (bad(vector)) return BitVectorWords.BAD_VECTOR;
         int found = 0;
         for (int i = 0; i < vectors[vector].length(); i++) {
@@ -155,7 +170,8 @@ final class Model {
         return found;
     }
 
-    int place(int vector, int n) {
+    @Override
+    public int place(int vector, int n) {
         if (bad(vector)) return BitVectorWords.BAD_VECTOR;
         String x = vectors[vector];
         for (int i = 0; i < x.length(); i++) {
@@ -164,7 +180,8 @@ final class Model {
         return BitVectorWords.BAD_INDEX;
     }
 
-    int findRun(int vector, int from, int run) {
+    @Override
+    public int findRun(int vector, int from, int run) {
         if (bad(vector)) return BitVectorWords.BAD_VECTOR;
         if (run < 1 || run > 256) return BitVectorWords.BAD_LENGTH;
         if (from < 0) return BitVectorWords.BAD_INDEX;
@@ -172,7 +189,8 @@ final class Model {
         return at < 0 ? BitVectorWords.BAD_INDEX : at;
     }
 
-    int compare(int a, int b) {
+    @Override
+    public int compare(int a, int b) {
         return bad(a) || bad(b) ? 0 : number(vectors[a]).compareTo(number(vectors[b]));
     }
 }

@@ -1,6 +1,7 @@
 /** Promises 1 to 12 together: long generated runs of calls, each answer held against the model's. */
 public final class ModelTest {
     private static final int RUNS = 3000;
+    private static final int CALLS_TO_SHOW_ONE = 257;
     private static final int[] EXTREMES = {Integer.MIN_VALUE, Integer.MIN_VALUE + 1, Integer.MAX_VALUE - 1,
         Integer.MAX_VALUE, -257, -256, -255, -33, -32, -1, 0, 1, 31, 32, 33, 255, 256, 257};
 
@@ -25,7 +26,7 @@ public final class ModelTest {
     }
 
     private static int vector() {
-        return number(60) == 0 ? Subject.NOT_VECTORS[number(Subject.NOT_VECTORS.length)] : number(6);
+        return number(60) == 0 ? Edges.NOT_VECTORS[number(Edges.NOT_VECTORS.length)] : number(6);
     }
 
     private static int value(int usual) {
@@ -36,55 +37,32 @@ public final class ModelTest {
         return number(2) == 0 ? value(257) : value(40);
     }
 
-    private static void step(String run, Subject x, Model model) {
+    private static Call call() {
         int a = vector();
         int b = vector();
-        int c = vector();
         int kind = number(40) == 0 ? EXTREMES[number(EXTREMES.length)] : number(9);
-        switch (number(14)) {
+        switch (number(15)) {
             case 0:
-                int made = length();
-                Check.due(run + "make " + a + " " + made, x.make(a, made), model.make(a, made));
-                break;
+                return Call.make(a, length());
             case 1: case 2: case 3: case 4:
-                int index = length();
-                int n = value(33);
-                int bits = bits();
-                Check.due(run + "put " + a + " " + index + " " + n + " " + bits,
-                    x.put(a, index, n, bits), model.put(a, index, n, bits));
-                break;
+                return Call.put(a, length(), value(33), bits());
             case 5: case 6:
                 int k = kind == BitVectorWords.STRETCH ? value(6) : length() * (number(2) == 0 ? 1 : -1);
-                Check.due(run + "change " + a + " " + kind + " " + b + " " + k,
-                    x.change(a, kind, b, k), model.change(a, kind, b, k));
-                break;
+                return Call.change(a, kind, b, k);
             case 7: case 8:
-                Check.due(run + "combine " + a + " " + kind + " " + b + " " + c,
-                    x.combine(a, kind, b, c), model.combine(a, kind, b, c));
-                break;
+                return Call.combine(a, kind, b, vector());
             case 9:
-                int at = length();
-                Check.due(run + "length " + a, x.length(a), model.length(a));
-                Check.due(run + "get " + a + " " + at, x.get(a, at), model.get(a, at));
-                break;
+                return Call.length(a);
             case 10:
-                int from = length();
-                int to = length();
-                Check.due(run + "count " + a + " " + from + " " + to, x.count(a, from, to), model.count(a, from, to));
-                break;
+                return Call.get(a, length());
             case 11:
-                int before = length();
-                Check.due(run + "place " + a + " " + before, x.place(a, before), model.place(a, before));
-                break;
+                return Call.count(a, length(), length());
             case 12:
-                int start = length();
-                int row = value(9);
-                Check.due(run + "findRun " + a + " " + start + " " + row,
-                    x.findRun(a, start, row), model.findRun(a, start, row));
-                break;
+                return Call.place(a, length());
+            case 13:
+                return Call.findRun(a, length(), value(9));
             default:
-                Check.due(run + "compare " + a + " " + b, x.compare(a, b), model.compare(a, b));
-                break;
+                return Call.compare(a, b);
         }
     }
 
@@ -110,8 +88,9 @@ public final class ModelTest {
             if (number(3) > 0) {
                 fill(x, model);
             }
-            while (x.callsLeft() > 257 + 1) {
-                step("run " + run + ": ", x, model);
+            while (x.callsLeft() > CALLS_TO_SHOW_ONE) {
+                Call call = call();
+                Check.due("run " + run + ": " + call, call.on(x), call.on(model));
             }
             int seen = number(6);
             Check.due("run " + run + ": vector " + seen + " at its end", x.show(seen), model.show(seen));

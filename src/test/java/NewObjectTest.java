@@ -1,17 +1,42 @@
 /** Promise 1. */
 public final class NewObjectTest {
-    public static void main(String[] args) {
+    private static void lengthZero() {
         Subject x = new Subject();
         for (int v = 0; v < 6; v++) {
             Check.due("length " + v, x.length(v), 0);
-            Check.due("get " + v, x.get(v, 0), false);
-            Check.due("count " + v, x.count(v, Integer.MIN_VALUE, Integer.MAX_VALUE), 0);
-            Check.due("place " + v, x.place(v, 0), BitVectorWords.BAD_INDEX);
-            Check.due("put " + v, x.put(v, 0, 1, 1), BitVectorWords.BAD_INDEX);
         }
-        Subject other = new Subject();
-        x.set(0, "101");
-        Check.due("another object", other.length(0), 0);
+    }
+
+    private static void noElements() {
+        Scene x = new Scene();
+        for (int v = 0; v < 6; v++) {
+            for (int n : Edges.around(0)) {
+                x.answers(Call.get(v, n), 0);
+                x.answers(Call.count(v, Edges.MIN, n), 0);
+                x.answers(Call.place(v, n), BitVectorWords.BAD_INDEX);
+                x.answers(Call.findRun(v, n, 1), BitVectorWords.BAD_INDEX);
+                x.answers(Call.put(v, n, 1, 1), BitVectorWords.BAD_INDEX);
+            }
+        }
+    }
+
+    private static void eachObjectIsNew() {
+        Subject first = new Subject();
+        for (int v = 0; v < 6; v++) {
+            first.set(v, "101");
+        }
+        Subject second = new Subject();
+        for (int v = 0; v < 6; v++) {
+            Check.due("length " + v + " of the second object", second.length(v), 0);
+            second.make(v, 256);
+            Check.due("length " + v + " of the first object", first.length(v), 3);
+        }
+    }
+
+    public static void main(String[] args) {
+        Check.sentence("All vectors have length 0", NewObjectTest::lengthZero);
+        Check.sentence("All vectors have length 0: they have no element", NewObjectTest::noElements);
+        Check.sentence("All vectors have length 0, whatever another object has done", NewObjectTest::eachObjectIsNew);
         Check.end();
     }
 }

@@ -2,9 +2,8 @@
  * A BitVectorWords that is never used for more calls than the document speaks of, and whose vectors are set and
  * shown as strings of 0 and 1, element 0 first.
  */
-final class Subject {
+final class Subject implements Words {
     static final int MOST_CALLS = 512;
-    static final int[] NOT_VECTORS = {-1, 6, 7, 256, Integer.MIN_VALUE, Integer.MAX_VALUE};
 
     private final BitVectorWords words = new BitVectorWords();
     private int calls = 0;
@@ -14,6 +13,18 @@ final class Subject {
         for (int v = 0; v < vectors.length; v++) {
             x.set(v, vectors[v]);
         }
+        return x;
+    }
+
+    /** All six vectors are this one. */
+    static Subject sixOf(String vector) {
+        return with(vector, vector, vector, vector, vector, vector);
+    }
+
+    /** The other vectors are true throughout and of length 256, so that a call that strays into one of them is seen. */
+    static Subject amongTrue(int vector, String elements) {
+        Subject x = sixOf(Edges.ALL_TRUE);
+        x.set(vector, elements);
         return x;
     }
 
@@ -29,43 +40,53 @@ final class Subject {
         return MOST_CALLS - calls;
     }
 
-    int make(int vector, int length) {
+    @Override
+    public int make(int vector, int length) {
         return called().make(vector, length);
     }
 
-    int put(int vector, int index, int n, int bits) {
+    @Override
+    public int put(int vector, int index, int n, int bits) {
         return called().put(vector, index, n, bits);
     }
 
-    int change(int to, int kind, int from, int k) {
+    @Override
+    public int change(int to, int kind, int from, int k) {
         return called().change(to, kind, from, k);
     }
 
-    int combine(int to, int kind, int a, int b) {
+    @Override
+    public int combine(int to, int kind, int a, int b) {
         return called().combine(to, kind, a, b);
     }
 
-    int length(int vector) {
+    @Override
+    public int length(int vector) {
         return called().length(vector);
     }
 
-    boolean get(int vector, int index) {
+    @Override
+    public boolean get(int vector, int index) {
         return called().get(vector, index);
     }
 
-    int count(int vector, int from, int to) {
+    @Override
+    public int count(int vector, int from, int to) {
         return called().count(vector, from, to);
     }
 
-    int place(int vector, int n) {
+    @Override
+    public int place(int vector, int n) {
         return called().place(vector, n);
     }
 
-    int findRun(int vector, int from, int run) {
+    @Override
+    public int findRun(int vector, int from, int run) {
         return called().findRun(vector, from, run);
     }
 
-    int compare(int a, int b) {
+    @Override
+    public int compare(int a, int b) {
         return called().compare(a, b);
     }
 
@@ -88,14 +109,6 @@ final class Subject {
         int length = length(vector);
         for (int i = 0; i < length; i++) {
             shown.append(get(vector, i) ? '1' : '0');
-        }
-        return shown.toString();
-    }
-
-    String showAll() {
-        StringBuilder shown = new StringBuilder();
-        for (int v = 0; v < 6; v++) {
-            shown.append(v == 0 ? "" : " ").append(v).append('=').append(show(v));
         }
         return shown.toString();
     }
