@@ -7,19 +7,19 @@ public final class ChangeTest {
 
     /** The change into a longer and a shorter vector and into the vector itself. */
     private static void gives(int kind, String from, int k, String want) {
-        Scene x = new Scene("1", from, Edges.ALL_TRUE, "", "0110", from);
-        for (int to : new int[] {1, 2, 3}) {
+        Scene x = new Scene("1", from, Edges.ALL_TRUE, from, "0110", "");
+        for (int to : new int[] {1, 2, 5}) {
             x.becomes(Call.change(to, kind, 1, k), want.length(), to, want);
         }
-        x.becomes(Call.change(0, kind, 5, k), want.length(), 0, want);
+        x.becomes(Call.change(0, kind, 3, k), want.length(), 0, want);
     }
 
     private static void refuses(int answer, int kind, String from, int k) {
-        Scene x = new Scene("1", from, Edges.ALL_TRUE, "", "0110", from);
-        for (int to : new int[] {1, 2, 3}) {
+        Scene x = new Scene("1", from, Edges.ALL_TRUE, from, "0110", "");
+        for (int to : new int[] {1, 2, 5}) {
             x.answers(Call.change(to, kind, 1, k), answer);
         }
-        x.answers(Call.change(5, kind, 5, k), answer);
+        x.answers(Call.change(3, kind, 3, k), answer);
     }
 
     private static void not() {

@@ -5,8 +5,8 @@ public final class CombineTest {
 
     /** The combination into each of its operands, into a longer and into a shorter vector. */
     private static void gives(int kind, String a, String b, String want) {
-        Scene x = new Scene("1", a, b, Edges.ALL_TRUE, "", "0110");
-        for (int to : new int[] {1, 2, 3, 4}) {
+        Scene x = new Scene("1", a, b, Edges.ALL_TRUE, "0110", "");
+        for (int to : new int[] {1, 2, 3, 5}) {
             x.becomes(Call.combine(to, kind, 1, 2), want.length(), to, want);
         }
     }
@@ -18,8 +18,8 @@ public final class CombineTest {
     }
 
     private static void refuses(int answer, int kind, String a, String b) {
-        Scene x = new Scene("1", a, b, Edges.ALL_TRUE, "", "0110");
-        for (int to : new int[] {1, 2, 3, 4}) {
+        Scene x = new Scene("1", a, b, Edges.ALL_TRUE, "0110", "");
+        for (int to : new int[] {1, 2, 3, 5}) {
             x.answers(Call.combine(to, kind, 1, 2), answer);
         }
     }

@@ -1,3 +1,5 @@
+import java.util.function.Supplier;
+
 /**
  * Six vectors on which one call is made. Each of them is looked at afterwards, on an object of its own, since one
  * object serves too few calls to look at six vectors of length 256.
@@ -37,10 +39,15 @@ final class Scene {
     }
 
     private void leaves(Call call, int answer, String[] after) {
-        String what = call + " on" + this;
-        Check.due(what, call.on(Subject.with(vectors)), answer);
+        leaves(call, answer, after, " on", () -> Subject.with(vectors));
+        leaves(call, answer, after, " on a used object with", () -> Subject.usedWith(vectors));
+    }
+
+    private void leaves(Call call, int answer, String[] after, String where, Supplier<Subject> fresh) {
+        String what = call + where + this;
+        Check.due(what, call.on(fresh.get()), answer);
         for (int v = 0; v < vectors.length; v++) {
-            Subject x = Subject.with(vectors);
+            Subject x = fresh.get();
             call.on(x);
             Check.due(what + ", vector " + v + " after it", x.show(v), after[v]);
         }

@@ -16,6 +16,17 @@ final class Subject implements Words {
         return x;
     }
 
+    /** The same vectors on an object on which each of them has held 256 true elements before. */
+    static Subject usedWith(String... vectors) {
+        Subject x = new Subject();
+        for (int v = 0; v < vectors.length; v++) {
+            x.make(v, Edges.LONGEST);
+            x.change(v, BitVectorWords.NOT, v, 0);
+            x.set(v, vectors[v]);
+        }
+        return x;
+    }
+
     /** All six vectors are this one. */
     static Subject sixOf(String vector) {
         return with(vector, vector, vector, vector, vector, vector);
